@@ -196,7 +196,7 @@ public final class ExactFilter {
         return side == 0 ? number.above() : number.below();
     }
 
-    /** The told numbers, each part by its number in the document; rows stand upright, so that j is 0. */
+    /** The told numbers, each part by its number in the document. Rows stand upright, so that j is 0. */
     private static final class Model {
         static final int M = 0;
         static final int C = 1;
@@ -297,7 +297,7 @@ public final class ExactFilter {
             return new Table(rows, columns, numbers, Whole.of(common));
         }
 
-        /** The least one, found by counting: told denominators are so small that this is the shortest way. */
+        /** The least one, found by counting: told denominators are small enough for this plain way. */
         private int commonBelow() {
             int common = 1;
             for (int k = 0; k < below.length; k++) {
@@ -413,7 +413,7 @@ public final class ExactFilter {
             return new Table(rows, columns, numbers, newBelow);
         }
 
-        /** The same numbers over their least shared denominator: else its length doubles with each measurement. */
+        /** Over the least shared denominator: else its length would double with each measurement. */
         Table shortened() {
             Whole divisor = below;
             for (int k = 0; k < above.length; k++) {
@@ -669,8 +669,8 @@ public final class ExactFilter {
                 return;
             }
             for (int place = length - divisor.length; place >= 0; place--) {
-                // Two digits of the divisor make this guess right or one too large.
-                int times = (int) Math.min(headBelow(place + divisor.length) / head, Whole.MASK);
+                // Two digits of the divisor and three of the rest make this guess right or one too large.
+                int times = (int) (headBelow(place + divisor.length) / head);
                 if (times > 0 && takesTooMuch(divisor, place, times)) {
                     giveBack(divisor, place);
                     times--;

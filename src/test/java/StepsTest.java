@@ -59,7 +59,8 @@ public final class StepsTest {
         checks.works("start with c 0", one::start);
 
         int[][] unfit = {{-1, 1, 1, 1, 0, 1}, {1, 1, -1, 20, 0, 1}, {-1, 1, -1, 1, 0, 1}, {1, 1, 1, 1, 20, 19},
-            {4, 3, 14, 19, 1, 1}, {0, 1, 1, 1, 1, 20}, {0, 1, 0, 1, -1, 20}, {1, 20, 20, 1, -20, 19}};
+            {4, 3, 14, 19, 1, 1}, {0, 1, 1, 1, 1, 20}, {0, 1, 0, 1, -1, 20}, {1, 20, 20, 1, -20, 19},
+            {0, 1, -1, 20, 0, 1}, {-1, 20, 0, 1, 0, 1}};
         for (int[] row : unfit) {
             ExactFilter x = covariance(row, 1);
             checks.fails("start with unfit c", Checks.STATE, x::start);
@@ -148,7 +149,8 @@ public final class StepsTest {
         checks.number(x, "the mean stays", Checks.mean(0), 4, 1);
         checks.due("measure behind four predictions", 1, () -> x.measure(1, 1));
 
-        int[][] unfit = {{-1, 1, 1, 1, 0, 1}, {1, 1, -1, 1, 0, 1}, {1, 1, 1, 1, -20, 19}, {0, 1, 0, 1, 1, 20}};
+        int[][] unfit = {{-1, 1, 1, 1, 0, 1}, {1, 1, -1, 1, 0, 1}, {1, 1, 1, 1, -20, 19}, {0, 1, 0, 1, 1, 20},
+            {0, 1, -1, 20, 0, 1}, {-1, 20, 0, 1, 0, 1}};
         for (int[] row : unfit) {
             ExactFilter two = covariance(row, 4);
             two.start();
