@@ -87,19 +87,25 @@ public final class AnswersTest {
         checks.due("and through a change", 2, () -> x.scaled(3, 0, 0, 1));
     }
 
+    private static ExactFilter measured(int size) {
+        ExactFilter x = new ExactFilter();
+        x.begin(size);
+        x.start();
+        x.measure(1, 1);
+        return x;
+    }
+
     private static void everyAnswerNeedsANumber() {
         for (int size = 1; size <= 2; size++) {
-            ExactFilter x = new ExactFilter();
-            x.begin(size);
-            x.start();
-            x.measure(1, 1);
             for (int what = -2; what <= 6; what++) {
+                ExactFilter x = measured(size);
                 for (int i = -1; i <= 3; i++) {
                     for (int j = -1; j <= 3; j++) {
                         look(x, size, what, i, j);
                     }
                 }
             }
+            ExactFilter x = measured(size);
             look(x, size, Integer.MAX_VALUE, 0, 0);
             look(x, size, Integer.MIN_VALUE, 0, 0);
             look(x, size, 1, Integer.MAX_VALUE, 0);

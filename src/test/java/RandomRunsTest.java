@@ -34,10 +34,9 @@ public final class RandomRunsTest {
     }
 
     private void calls() {
-        if (random.nextInt(4) > 0) {
-            both("begin(2)", () -> x.begin(2), () -> plain.begin(2));
-        }
-        for (int call = 0; call < CALLS; call++) {
+        int first = random.nextInt(4) > 0 ? 2 : 1;
+        both("begin(" + first + ")", () -> x.begin(first), () -> plain.begin(first));
+        for (int call = 2; call <= CALLS; call++) {
             int kind = random.nextInt(100);
             if (kind < 1) {
                 int size = random.nextInt(4);
